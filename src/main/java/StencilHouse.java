@@ -160,9 +160,6 @@ public final class StencilHouse {
         if (k == NONE || sprays == NONE) {
             return sprays;
         }
-        if (k < 0 || k >= sprays) {
-            return NONE;
-        }
         return orders.foundAt(k);
     }
 
@@ -321,13 +318,7 @@ public final class StencilHouse {
             return NONE;
         }
         int most = orders.mostShown(of);
-        if (k == NONE) {
-            return most;
-        }
-        if (k < 0 || k >= of.sheetCount) {
-            return NONE;
-        }
-        return orders.foundAt(k);
+        return k == NONE ? most : orders.foundAt(k);
     }
 
     public int colours(int picture, int what) {
@@ -1321,7 +1312,7 @@ public final class StencilHouse {
         }
     }
 
-    /** Rows of sheets, one after another by numbers, and what asks for one of them. */
+    /** Rows of sheets, one after another by numbers, and what asks for one of them, which is kept as found. */
     private static final class Orders {
         private static final int NO_SHEET = MOST_SHEETS;
         private static final int TOPS = MOST_SHEETS + 1;

@@ -86,6 +86,7 @@ public final class TextTest {
         check.faulty(0, "size 3 3  \n", 1, 11);
         check.faulty(0, "size 3 3;siz", 1, 9);
         check.faulty(0, "sizes 3 3;", 1, 0);
+        check.faulty(0, "tize 3 3;", 1, 0);
         check.faulty(0, "size 3;", 1, 6);
         check.faulty(0, "size 3 3 3;", 1, 9);
         check.faulty(0, "size 123 3;", 1, 5);
@@ -135,6 +136,7 @@ public final class TextTest {
         check.faulty(0, "wear 0 1;", 4, 9);
         check.faulty(0, "wear 0 1;sheet; ", 0, -1);
         check.faulty(0, "wear 5 1;sheet; ", 4, 16);
+        check.faulty(0, "sheet;wear 5 1;wear 0 1;", 4, 24);
         check.faulty(0, "wear 6 1;", 2, 5);
         check.faulty(0, "wear 0 0;", 2, 7);
         check.faulty(0, "wear 0 10;", 2, 7);
@@ -205,6 +207,11 @@ public final class TextTest {
         check.due("later wear", house.shop(1, 40), 7);
         check.due("further sheet", house.shop(1, 3), 1);
         check.due("island", house.shop(1, 20), 1 << 12);
+        check.due("nothing of it stays", Check.tell(house, 0, 0, ""), 0);
+        int[] first = {3, 3, 0, 0};
+        for (int what = 0; what < 4; what++) {
+            check.due("at first again " + what, house.shop(0, what), first[what]);
+        }
         check.due("fault keeps", Check.tell(house, 0, 1, "size 1 1"), -1);
         check.due("as before", house.shop(1, 0), 5);
         check.due("other one as before", house.shop(0, 0), 3);
@@ -249,6 +256,11 @@ public final class TextTest {
         check.due("now 0 0", house.picture(0, 0, 0), 0);
         check.due("now 1 0", house.picture(0, 1, 0), 7);
         check.due("now 0 2", house.picture(0, 0, 2), 0);
+        check.due("full", Check.tell(house, 2, 0, "row 1 1 1 1 1;row 1 1 1 1 1;row 1 1 1 1 1;row 1 1 1 1 1;row 1 1 1 1 1;"), 0);
+        check.due("bare", Check.tell(house, 2, 0, "row;"), 0);
+        for (int place = 0; place < 25; place++) {
+            check.due("bare at " + place, house.picture(0, place % 5, place / 5), 0);
+        }
     }
 
     private static void marks() {
