@@ -894,17 +894,19 @@ public final class StencilHouse {
             return together;
         }
 
-        int beside(int cells) {
-            return (toRight(cells) | (cells & ~left) >>> 1 | cells << columns | cells >>> columns) & all;
-        }
-
-        private int toRight(int cells) {
-            return (cells & ~right) << 1;
+        private int beside(int cells) {
+            int across = (cells & ~right) << 1 | (cells & ~left) >>> 1;
+            return (across | cells << columns | cells >>> columns) & all;
         }
 
         int falling(int cutCells) {
+            return opened(cutCells) & ~cutCells;
+        }
+
+        // What is not held is cut or falls, and so is open.
+        int opened(int cutCells) {
             int solid = all & ~cutCells;
-            return solid & ~grown(solid & rim, solid);
+            return all & ~grown(solid & rim, solid);
         }
 
         // A step that adds no cell is the last; each before it adds one or more.
@@ -920,14 +922,10 @@ public final class StencilHouse {
             return held;
         }
 
-        int opened(int cutCells) {
-            return cutCells | falling(cutCells);
-        }
-
         int slid(int cells, int across, int down) {
             int moved = cells;
             for (int step = 0; step < across && step < MOST_SIDE; step++) {
-                moved = toRight(moved);
+                moved = (moved & ~right) << 1;
             }
             for (int step = 0; step < down && step < MOST_SIDE; step++) {
                 moved = moved << columns & all;
@@ -1096,6 +1094,8 @@ public final class StencilHouse {
 
     /** The wall and the sheets of a shop while a day goes on. */
     private static final class Wall {
+        private static final int[] KIND_DRAWN = {SPRAY, SPRAY, SPRAY, SPRAY, FLIP, TURN, SLIDE, SLIDE, PATCH, WASH};
+
         private Shop shop = new Shop();
         private final int[] cellsOf = new int[COLOURS];
         private final int[] cut = new int[MOST_SHEETS];
@@ -1138,32 +1138,23 @@ public final class StencilHouse {
             return deedsDone;
         }
 
+        // Each draws as many numbers as its kind needs, whether it may then or not.
         void runDrawn(int from, int times) {
             seed = from;
             for (int i = 0; i < times; i++) {
-                actDrawn();
+                int kind = KIND_DRAWN[draw(KIND_DRAWN.length)];
+                boolean hasPlace = kind == SLIDE || kind == PATCH;
+                if (kind == WASH || shop.sheetCount > 0) {
+                    int a = kind == WASH ? drawColour() : draw(shop.sheetCount);
+                    int b = kind == SPRAY ? drawColour() : hasPlace ? draw(MOST_SIDE) : NONE;
+                    int c = hasPlace ? draw(MOST_SIDE) : NONE;
+                    act(kind, a, b, c);
+                }
             }
         }
 
-        private void actDrawn() {
-            int kind = draw(10);
-            if (kind == 9) {
-                act(WASH, 1 + draw(9), NONE, NONE);
-            } else if (shop.sheetCount > 0) {
-                actDrawnWith(kind, draw(shop.sheetCount));
-            }
-        }
-
-        private void actDrawnWith(int kind, int sheet) {
-            if (kind <= 3) {
-                act(SPRAY, sheet, 1 + draw(9), NONE);
-            } else if (kind <= 5) {
-                act(kind == 4 ? FLIP : TURN, sheet, NONE, NONE);
-            } else {
-                int column = draw(MOST_SIDE);
-                int row = draw(MOST_SIDE);
-                act(kind == 8 ? PATCH : SLIDE, sheet, column, row);
-            }
+        private int drawColour() {
+            return 1 + draw(COLOURS - 1);
         }
 
         private int draw(int below) {

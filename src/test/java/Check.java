@@ -49,6 +49,15 @@ final class Check {
         return number;
     }
 
+    /** A new object that was told shops. */
+    StencilHouse house(String... shops) {
+        StencilHouse house = new StencilHouse();
+        for (String shop : shops) {
+            told(house, 0, shop);
+        }
+        return house;
+    }
+
     void faulty(int sort, String text, int fault, int place) {
         StencilHouse house = new StencilHouse();
         due("text of '" + text + "'", tell(house, sort, -1, text), fault == 0 ? 0 : -1);

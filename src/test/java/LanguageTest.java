@@ -4,8 +4,10 @@ import java.lang.reflect.Method;
 import java.lang.reflect.Modifier;
 import java.nio.file.Files;
 import java.nio.file.Path;
+import java.util.HashMap;
 import java.util.HashSet;
 import java.util.List;
+import java.util.Map;
 import java.util.Set;
 import java.util.regex.Matcher;
 import java.util.regex.Pattern;
@@ -22,12 +24,17 @@ public final class LanguageTest {
         "int unlike(int,int,int)", "int seen(int,int)", "int show(int,int)", "int colours(int,int)", "int plain(int,int,int)",
         "int off(int,int)", "int after(int,int,int)", "int count(int)", "boolean image(int)", "boolean again(int)"};
 
+    private static final Pattern METHOD_HEAD = Pattern.compile("^( {4,8})[a-zA-Z\\[\\] ]+ (\\w+)\\(.*\\) \\{$");
+    private static final Pattern CALL = Pattern.compile("\\b(\\w+)\\(");
+
     public static void main(String[] args) throws Exception {
         String source = Files.readString(Path.of("src/main/java/StencilHouse.java"));
         words(source);
         face();
         inside();
         methodLengths(source);
+        objectsMade(source);
+        callDepths(source);
         check.finish();
     }
 
@@ -99,7 +106,7 @@ public final class LanguageTest {
 
     private static void methodLengths(String source) {
         String[] lines = source.split("\n");
-        Pattern head = Pattern.compile("^ {4,8}[a-zA-Z\\[\\] ]+ \\w+\\(.*\\) \\{$");
+        Pattern head = METHOD_HEAD;
         int from = -1;
         for (int i = 0; i < lines.length; i++) {
             if (head.matcher(lines[i]).matches() && !lines[i].contains(" new ")) {
@@ -109,5 +116,55 @@ public final class LanguageTest {
                 from = -1;
             }
         }
+    }
+
+    // What a run makes is counted: objects and arrays are made with the object, and an image with its first use.
+    private static void objectsMade(String source) {
+        Set<String> due = new HashSet<>(List.of("kept = new Told();", "shopList[k] = new Shop();", "dayList[k] = new Day();",
+            "pictureList[k] = new Picture();", "marksList[k] = new Marks();"));
+        Pattern field = Pattern.compile(" {4,8}(private |final |static )*[A-Z]?\\w+(\\[\\])* \\w+ = new \\w+[\\[(].*;");
+        for (String line : source.split("\n")) {
+            if (line.matches(".*\\bnew\\b.*") && !line.contains("//") && !field.matcher(line).matches()) {
+                check.due("made in a method: " + line.trim(), due.remove(line.trim()), true);
+            }
+        }
+    }
+
+    // Calls that are no recursion go at most eight deep; methods of one name are taken together.
+    private static void callDepths(String source) {
+        Map<String, Set<String>> calls = new HashMap<>();
+        String name = null;
+        String end = "";
+        for (String line : source.split("\n")) {
+            Matcher head = METHOD_HEAD.matcher(line);
+            if (head.matches()) {
+                name = head.group(2);
+                end = head.group(1) + "}";
+                calls.putIfAbsent(name, new HashSet<>());
+            } else if (line.equals(end)) {
+                name = null;
+            } else if (name != null) {
+                Matcher call = CALL.matcher(line.replaceAll("//.*", ""));
+                while (call.find()) {
+                    calls.get(name).add(call.group(1));
+                }
+            }
+        }
+        check.due("methods found", calls.size() > 100, true);
+        for (String root : calls.keySet()) {
+            check.due("calls deeper than eight from " + root, Math.max(8, depth(calls, root, new HashSet<>())), 8);
+        }
+    }
+
+    private static int depth(Map<String, Set<String>> calls, String name, Set<String> above) {
+        int deepest = 0;
+        if (!calls.containsKey(name) || !above.add(name)) {
+            return 0;
+        }
+        for (String called : calls.get(name)) {
+            deepest = Math.max(deepest, depth(calls, called, above));
+        }
+        above.remove(name);
+        return deepest + 1;
     }
 }

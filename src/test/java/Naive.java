@@ -286,19 +286,28 @@ final class Naive {
         return state;
     }
 
-    /** All sets of cut cells, least number first, of which patching lets nothing fall: the fewest. */
+    /** All sets of three cut cells at most of which patching lets nothing fall: the fewest, the least number. */
     int bridges(int sheet) {
         int cut = bits(cuts.get(sheet));
         int best = -1;
-        for (int set = 0; set < 1 << w * h; set++) {
-            if ((set & ~cut) == 0 && Integer.bitCount(set) <= 3
-                && (best < 0 || Integer.bitCount(set) < Integer.bitCount(best))) {
-                if (bits(falls(grid(cut & ~set))) == 0) {
-                    best = set;
+        for (int a = 0; a < w * h; a++) {
+            for (int b = 0; b <= a; b++) {
+                for (int c = 0; c <= b; c++) {
+                    int[] sets = {0, 1 << a, 1 << a | 1 << b, 1 << a | 1 << b | 1 << c};
+                    for (int set : sets) {
+                        if ((set & ~cut) == 0 && isBetter(set, best) && bits(falls(grid(cut & ~set))) == 0) {
+                            best = set;
+                        }
+                    }
                 }
             }
         }
         return best;
+    }
+
+    private static boolean isBetter(int set, int best) {
+        int more = Integer.bitCount(set) - Integer.bitCount(best);
+        return best < 0 || more < 0 || more == 0 && set < best;
     }
 
     boolean[][] grid(int bits) {

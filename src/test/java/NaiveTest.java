@@ -70,11 +70,9 @@ public final class NaiveTest {
                 check.due(name + "within " + s + " " + b, house.within(0, s, b), naive.within(s, b));
                 check.due(name + "unlike " + s + " " + b, house.unlike(0, s, b), naive.unlike(s, b));
             }
-            if (naive.w * naive.h <= 16) {
-                int bridges = naive.bridges(s);
-                check.due(name + "bridges " + s, house.bridges(0, s, true), bridges);
-                check.due(name + "bridges " + s, house.bridges(0, s, false), bridges < 0 ? -1 : Integer.bitCount(bridges));
-            }
+            int bridges = naive.bridges(s);
+            check.due(name + "bridges " + s, house.bridges(0, s, true), bridges);
+            check.due(name + "bridges " + s, house.bridges(0, s, false), bridges < 0 ? -1 : Integer.bitCount(bridges));
         }
     }
 

@@ -17,16 +17,8 @@ public final class SheetTest {
         check.finish();
     }
 
-    private static StencilHouse house(String... shops) {
-        StencilHouse house = new StencilHouse();
-        for (String shop : shops) {
-            check.told(house, 0, shop);
-        }
-        return house;
-    }
-
     private static void bridges() {
-        StencilHouse house = house(SHOP, "size 5 5;" + FOUR_ISLANDS + THREE_ISLANDS);
+        StencilHouse house = check.house(SHOP, "size 5 5;" + FOUR_ISLANDS + THREE_ISLANDS);
         check.due("one", house.bridges(0, 0, false), 1);
         check.due("the least", house.bridges(0, 0, true), 2);
         check.due("nothing falls", house.bridges(0, 1, false), 0);
@@ -41,7 +33,7 @@ public final class SheetTest {
     }
 
     private static void coverAndAtOnce() {
-        StencilHouse house = house(SHOP, "");
+        StencilHouse house = check.house(SHOP, "");
         check.due("cover", house.cover(0, false), 2);
         check.due("cover which", house.cover(0, true), 3);
         check.due("cover without sheets", house.cover(1, false), 0);
@@ -58,7 +50,7 @@ public final class SheetTest {
     }
 
     private static void duel() {
-        StencilHouse house = house(SHOP, "");
+        StencilHouse house = check.house(SHOP, "");
         int[] worth = {0, 9, 5};
         int[] first = {-1, 0, 0};
         for (int n = 0; n < 3; n++) {
@@ -80,7 +72,7 @@ public final class SheetTest {
     }
 
     private static void chance() {
-        StencilHouse house = house(SHOP, "slip 4;sheet 1;");
+        StencilHouse house = check.house(SHOP, "slip 4;sheet 1;");
         int[][] due = {{1, 4}, {1, 4}, {1, 2}, {0, 1}, {0, 1}, {0, 1}, {0, 1}};
         for (int colour = 0; colour <= 6; colour++) {
             check.due("chance " + colour, house.chance(0, 3, colour, false), due[colour][0]);
@@ -102,7 +94,7 @@ public final class SheetTest {
     }
 
     private static void within() {
-        StencilHouse house = house(SHOP, "sheet;sheet 7;");
+        StencilHouse house = check.house(SHOP, "sheet;sheet 7;");
         int[][] due = {{3, 3, 0}, {0, 3, 0}, {2, 2, 1}};
         for (int a = 0; a < 3; a++) {
             for (int b = 0; b < 3; b++) {
@@ -117,7 +109,7 @@ public final class SheetTest {
     }
 
     private static void holes() {
-        StencilHouse house = house(SHOP, "sheet 1 2 4;sheet;sheet 5 2 5;");
+        StencilHouse house = check.house(SHOP, "sheet 1 2 4;sheet;sheet 5 2 5;");
         int[][] due = {{1, 9, 12, 3, 3}, {1, 3, 8, 3, 1}, {1, 2, 6, 1, 2}};
         int[][] more = {{3, 1, 12, 3, 1}, {0, 0, 0, 0, 0}, {5, 1, 20, 5, 1}};
         for (int sheet = 0; sheet < 3; sheet++) {
@@ -133,7 +125,7 @@ public final class SheetTest {
     }
 
     private static void sheetsAre(String shop, int... due) {
-        StencilHouse house = house(shop);
+        StencilHouse house = check.house(shop);
         for (int what = 0; what < 12; what++) {
             check.due("sheets " + what + " of '" + shop + "'", house.sheets(0, what), due[what]);
         }
@@ -148,7 +140,7 @@ public final class SheetTest {
         // Flipped, turned, both, and neither.
         sheetsAre("sheet 1;sheet 4;sheet 0 0 1;sheet 0 0 4;sheet 1;sheet 0 2;", 32, 32, 10, 0,
             511 & ~(1 | 4 | 64 | 256 | 16), 0, 2 | 4 | 8 | 32, 0, 2, 4, 0, 1);
-        StencilHouse house = house(SHOP);
+        StencilHouse house = check.house(SHOP);
         check.due("what 12", house.sheets(0, 12), -2);
         check.due("what -1", house.sheets(0, -1), -2);
         check.due("no shop", house.sheets(1, 0), -2);
@@ -162,7 +154,7 @@ public final class SheetTest {
     }
 
     private static void seenAndShow() {
-        StencilHouse house = house(SHOP, "sheet 7;sheet 2;sheet 1;sheet 7;");
+        StencilHouse house = check.house(SHOP, "sheet 7;sheet 2;sheet 1;sheet 7;");
         int[] due = {7, 3, 2};
         int[] show = {3, 0, 1, 2};
         for (int sheet = 0; sheet < 3; sheet++) {
