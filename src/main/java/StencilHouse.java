@@ -227,7 +227,7 @@ public final class StencilHouse {
         if (k == NONE && what == 0) {
             return of.markCount;
         }
-        if (k < 0 || k >= of.markCount) {
+        if (!of.hasMark(k)) {
             return NOT_THERE;
         }
         switch (what) {
@@ -460,10 +460,10 @@ public final class StencilHouse {
         }
 
         int take(Reader reader, int sort, int at) {
-            int number = at == NONE ? counts[sort] : at;
-            if (number < 0 || number >= MOST_OF_A_SORT) {
+            if (!hasPlaceFor(sort, at)) {
                 return NOT_THERE;
             }
+            int number = at == NONE ? counts[sort] : at;
             switch (sort) {
                 case SHOPS: shopList[number].copyFrom(reader.shopRead); break;
                 case DAYS: dayList[number].copyFrom(reader.dayRead); break;
@@ -877,7 +877,7 @@ public final class StencilHouse {
         }
 
         boolean isOpen(int sheet, int cell) {
-            return (open[sheet] >> cell & 1) != 0;
+            return hasSheet(sheet) && (open[sheet] >> cell & 1) != 0;
         }
 
         int everySheet() {
@@ -984,7 +984,8 @@ public final class StencilHouse {
         }
 
         int part(int k, int which) {
-            return parts[k * DEED_PARTS + which];
+            int at = k * DEED_PARTS + which;
+            return at >= 0 && at < parts.length ? parts[at] : NONE;
         }
 
         void copyFrom(Day other) {
@@ -1007,7 +1008,8 @@ public final class StencilHouse {
         }
 
         int colourAt(int column, int row) {
-            return colour[row * MOST_SIDE + column];
+            int at = row * MOST_SIDE + column;
+            return at >= 0 && at < colour.length ? colour[at] : 0;
         }
 
         int placesOf(int which) {
@@ -1082,6 +1084,10 @@ public final class StencilHouse {
             row[markCount] = itsRow;
             sheet[markCount] = itsSheet;
             markCount++;
+        }
+
+        boolean hasMark(int k) {
+            return k >= 0 && k < markCount && k < MOST_MARKS;
         }
 
         void copyFrom(Marks other) {
